@@ -24,6 +24,10 @@ final class Due {
         is(what, got ? 1 : 0, 1);
     }
 
+    int askedCount() {
+        return asked;
+    }
+
     int wrongCount() {
         return wrong;
     }
