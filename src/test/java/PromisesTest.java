@@ -568,6 +568,8 @@ public final class PromisesTest {
         dueWrong(x, 7, 0, 6, 6, 6, 6, 6, 0);
         dueWrong(x, 8, 6, 6, 6, 6, 6, 0, 0);
         dueWrong(x, 7, 7, 7, 7, 7, 7, 0, 0, 0, 0, 0, 0, 0);
+        dueWrong(x, 7, 7, 0, 0, 7, 7, 0, 0, 7, 0, 7, 0, 7, 0);
+        dueWrong(x, 7, 7, 0, 0, 7, 7, 0, 0, 7, 0, 7, 0, 0, 6);
         write(x, 6, 6, 6, 6, 6, 0);
         dueSearch(x, 0);
         write(x, 7, 0, 6, 6, 6, 6, 0);
@@ -622,6 +624,9 @@ public final class PromisesTest {
         due.is("of three", x.sync(), 3);
         due.is("durable then", x.count(1), 3);
         due.is("again", x.sync(), 3);
+        due.is("crash has nothing to take back", x.crash(), 3);
+        due.is("messages", x.mailbox(0, 0), 3);
+        due.is("next UID", x.mailbox(0, 1), 4);
         appendMany(x, 0, 0, 7);
         due.is("seven more are not", x.count(1), 3);
         due.is("crash keeps what was synced", x.crash(), 3);
