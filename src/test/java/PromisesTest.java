@@ -1,27 +1,5 @@
 /** One method for each promise: ordinary inputs, the edges that the document names, wrong inputs. */
-public final class PromisesTest {
-    private static final int REFUSED = MailViews.REFUSED;
-    private static final int FULL = MailViews.FULL;
-    private static final int GONE = MailViews.GONE;
-    private static final int READ_ONLY = MailViews.READ_ONLY;
-    private static final int WRONG = MailViews.WRONG;
-    private static final int EXPUNGED = MailViews.EXPUNGED;
-    private static final int EXISTS = MailViews.EXISTS;
-    private static final int FLAGGED = MailViews.FLAGGED;
-
-    private static final int SEEN = 1;
-    private static final int ANSWERED = 2;
-    private static final int MARKED = 4;
-    private static final int DELETED = 8;
-    private static final int DRAFT = 16;
-
-    private static final int LEAST = Integer.MIN_VALUE;
-    private static final int MOST = Integer.MAX_VALUE;
-    private static final int[] NO_SESSIONS = {-1, 4, LEAST, MOST};
-    private static final int[] NO_MAILBOXES = {-1, 3, LEAST, MOST};
-
-    private static final Due due = new Due();
-
+public final class PromisesTest extends TestBase {
     public static void main(String[] args) {
         newObject();
         append();
@@ -56,56 +34,6 @@ public final class PromisesTest {
         viewIsFull();
         viewForgetsNoUid();
         due.end();
-    }
-
-    private static MailViews withMessages(int... flags) {
-        MailViews x = new MailViews();
-        for (int at = 0; at < flags.length; at++) {
-            x.append(0, flags[at], 10 * (at + 1));
-        }
-        return x;
-    }
-
-    private static void appendMany(MailViews x, int mailbox, int flags, int many) {
-        for (int at = 0; at < many; at++) {
-            x.append(mailbox, flags, 1);
-        }
-    }
-
-    private static void dueMessage(MailViews x, int mailbox, int k, int uid, int flags, int size) {
-        due.is("message(" + mailbox + ", " + k + ", 0)", x.message(mailbox, k, 0), uid);
-        due.is("message(" + mailbox + ", " + k + ", 1)", x.message(mailbox, k, 1), flags);
-        due.is("message(" + mailbox + ", " + k + ", 2)", x.message(mailbox, k, 2), size);
-    }
-
-    /** Kind and number of each notice, and that there is no more. */
-    private static void dueNotices(MailViews x, int session, int... pairs) {
-        for (int at = 0; at < pairs.length; at += 2) {
-            int k = at / 2;
-            due.is("notice(" + session + ", " + k + ", 0)", x.notice(session, k, 0), pairs[at]);
-            due.is("notice(" + session + ", " + k + ", 1)", x.notice(session, k, 1), pairs[at + 1]);
-        }
-        due.is("notice behind the last", x.notice(session, pairs.length / 2, 0), REFUSED);
-    }
-
-    private static void dueView(MailViews x, int session, int... uids) {
-        for (int at = 0; at < uids.length; at++) {
-            due.is("seen(" + session + ", " + (at + 1) + ", 0)", x.seen(session, at + 1, 0), uids[at]);
-        }
-        due.is("seen behind the last", x.seen(session, uids.length + 1, 0), REFUSED);
-    }
-
-    private static void dueSearch(MailViews x, int session, int... numbers) {
-        due.is("search(" + session + ")", x.search(session), numbers.length);
-        dueFound(x, numbers);
-    }
-
-    private static void dueFound(MailViews x, int... numbers) {
-        due.is("count(3)", x.count(3), numbers.length);
-        for (int at = 0; at < numbers.length; at++) {
-            due.is("found(" + at + ")", x.found(at), numbers[at]);
-        }
-        due.is("found behind the last", x.found(numbers.length), REFUSED);
     }
 
     private static void newObject() {
@@ -579,18 +507,6 @@ public final class PromisesTest {
         write(x, 6, 7, 7, 7, 0, 0, 7, 0, 0, 8, 0, 7, 0, 0);
         due.is("fourteen tokens", x.count(2), 14);
         dueSearch(x, 0);
-    }
-
-    private static void write(MailViews x, int... ops) {
-        for (int op : ops) {
-            x.criterion(op, 0, 0);
-        }
-    }
-
-    private static void dueWrong(MailViews x, int... ops) {
-        write(x, ops);
-        due.is("search of " + java.util.Arrays.toString(ops), x.search(0), WRONG);
-        due.is("the row is empty", x.count(2), 0);
     }
 
     private static void found() {
