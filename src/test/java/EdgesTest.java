@@ -90,6 +90,7 @@ public final class EdgesTest extends TestBase {
         crashFillsAFullMailboxAgain();
         crashValidityGrowsOnceInEachMailbox();
         crashNextUidBeforeTheFirst();
+        crashNextUidAboveRemovedOnes();
         crashLeavesTheDurable();
         crashLeavesCriterionAndFound();
     }
@@ -107,6 +108,7 @@ public final class EdgesTest extends TestBase {
         manyUids();
         manyValidities();
         manyChanges();
+        noCallThrows();
     }
 
     private static void newObject() {
@@ -980,6 +982,22 @@ public final class EdgesTest extends TestBase {
         due.is("append", x.append(0, 0, 1), 3);
     }
 
+    private static void crashNextUidAboveRemovedOnes() {
+        due.in("14: its NEXT UID is what it was before the first such one, not one above the last message");
+        MailViews x = withMessages(0, DELETED, DELETED);
+        x.select(0, 0, false);
+        x.expunge(0);
+        x.sync();
+        x.append(0, 0, 1);
+        x.append(0, 0, 1);
+        due.is("crash", x.crash(), 5);
+        due.is("next UID", x.mailbox(0, 1), 4);
+        due.is("crash with nothing added", x.crash(), 5);
+        due.is("next UID", x.mailbox(0, 1), 4);
+        dueMessages(x, 0, 1);
+        due.is("append", x.append(0, 0, 1), 4);
+    }
+
     private static void crashLeavesTheDurable() {
         due.in("14: How many changes are left");
         MailViews x = new MailViews();
@@ -1173,5 +1191,45 @@ public final class EdgesTest extends TestBase {
         }
         dueChanges(x, 508, 504);
         due.is("crash", x.crash(), 504);
+    }
+
+    /** LANGUAGE.md, rule 7: no call may throw, whatever came before, also where its answer is free. */
+    private static void noCallThrows() {
+        due.in("any arguments in any state");
+        java.util.Random random = new java.util.Random(7);
+        int[] some = {LEAST, -1000, -1, 0, 0, 1, 1, 2, 2, 3, 4, 5, 8, 8, 12, 13, 24, 25, 31, 32, 999, 1000, MOST};
+        MailViews x = new MailViews();
+        int least = 0;
+        for (int many = 0; many < 200_000; many++) {
+            int[] args = new int[4];
+            for (int at = 0; at < 4; at++) {
+                args[at] = some[random.nextInt(some.length)];
+            }
+            least = Math.min(least, anyCall(x, random.nextInt(18), args[0], args[1], args[2], args[3]));
+        }
+        due.is("the least answer of all", least, WRONG);
+    }
+
+    private static int anyCall(MailViews x, int kind, int a, int b, int c, int d) {
+        return switch (kind) {
+            case 0 -> x.append(a, b, c);
+            case 1 -> x.select(a, b, c > 8);
+            case 2 -> d == 0 ? x.close(a) : x.check(a);
+            case 3 -> x.check(a);
+            case 4 -> x.fetch(a, b);
+            case 5 -> x.store(a, b, c, d);
+            case 6 -> x.expunge(a);
+            case 7 -> x.copy(a, b, c);
+            case 8 -> x.criterion(a, b, c);
+            case 9 -> x.search(a);
+            case 10 -> x.found(a);
+            case 11 -> x.sync();
+            case 12 -> d == 0 ? x.crash() : x.count(b);
+            case 13 -> x.message(a, b, c);
+            case 14 -> x.seen(a, b, c);
+            case 15 -> x.notice(a, b, c);
+            case 16 -> x.mailbox(a, b);
+            default -> x.count(a);
+        };
     }
 }

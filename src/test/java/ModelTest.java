@@ -22,6 +22,7 @@ public final class ModelTest {
     private int[] weights;
     private boolean tidyRun;
     private boolean patientRun;
+    private int oddEvery;
 
     public static void main(String[] args) {
         ModelTest test = new ModelTest();
@@ -38,6 +39,7 @@ public final class ModelTest {
         y = new Model();
         tidyRun = random.nextBoolean();
         patientRun = random.nextInt(3) == 0;
+        oddEvery = random.nextInt(6) == 0 ? 5 : 60;
         weights = new int[KINDS];
         for (int kind = 0; kind < KINDS; kind++) {
             weights[kind] = kind < CHANGING ? 1 + random.nextInt(30) : patientRun ? 1 : 4;
@@ -75,7 +77,7 @@ public final class ModelTest {
     }
 
     private int upTo(int from, int to) {
-        return random.nextInt(60) == 0 ? ODD[random.nextInt(ODD.length)] : from + random.nextInt(to - from + 1);
+        return random.nextInt(oddEvery) == 0 ? ODD[random.nextInt(ODD.length)] : from + random.nextInt(to - from + 1);
     }
 
     /** In a patient run session 0 is seldom updated with removals, so that its view grows full. */

@@ -68,6 +68,7 @@ public final class TermsTest extends TestBase {
         anEmptyRowIsNotGood();
         justOneCriterion();
         aLackingPart();
+        rowsOfEveryLength();
         insideOfFive();
         insideOfSix();
         hasSomeFlag();
@@ -831,6 +832,39 @@ public final class TermsTest extends TestBase {
         }
         write(x, NOT, ALL);
         dueSearch(x, 0);
+    }
+
+    /** Writes one criterion of so many tokens, none of them deep inside; at most the first `most` are written. */
+    private static void writeOneOf(MailViews x, int tokens, int most) {
+        if (most <= 0) {
+            return;
+        }
+        if (tokens <= 2) {
+            write(x, tokens == 2 && most >= 2 ? new int[] {NOT, ALL} : new int[] {tokens == 2 ? NOT : ALL});
+            return;
+        }
+        int first = (tokens - 1) / 2;
+        write(x, BOTH);
+        writeOneOf(x, first, most - 1);
+        writeOneOf(x, tokens - 1 - first, most - 1 - first);
+    }
+
+    private static void rowsOfEveryLength() {
+        due.in("just one criterion, in rows of 1 to 14 tokens");
+        MailViews x = withMessages(0);
+        x.select(0, 0, false);
+        for (int tokens = 1; tokens <= 14; tokens++) {
+            writeOneOf(x, tokens, tokens);
+            due.is("tokens", x.count(2), tokens);
+            due.holds("one criterion of " + tokens + " is good", x.search(0) >= 0);
+            writeOneOf(x, tokens + 1, tokens);
+            due.is("tokens", x.count(2), tokens);
+            due.is("the last of " + (tokens + 1) + " is lacking", x.search(0), WRONG);
+            writeOneOf(x, tokens - 1, tokens - 1);
+            write(x, ALL);
+            due.is("tokens", x.count(2), tokens);
+            due.is("one behind " + (tokens - 1), x.search(0), tokens == 1 ? 1 : WRONG);
+        }
     }
 
     private static void insideOfFive() {
